@@ -1,0 +1,70 @@
+/** Counts and prints what a test finds wrong; a test ends with done(). */
+final class Expect {
+    /** A call whose answer or exception is looked at. */
+    interface Call {
+        long run();
+    }
+
+    static final Class<? extends RuntimeException> INDEX = IndexOutOfBoundsException.class;
+    static final Class<? extends RuntimeException> ARGUMENT = IllegalArgumentException.class;
+    static final Class<? extends RuntimeException> STATE = IllegalStateException.class;
+
+    private static int checked = 0;
+    private static int wrong = 0;
+
+    private Expect() {
+    }
+
+    static void same(String what, long got, long due) {
+        checked++;
+        if (got != due) {
+            fail(what + " answered " + got + ", due is " + due);
+        }
+    }
+
+    static void raises(String what, Class<? extends RuntimeException> due, Call call) {
+        checked++;
+        String got;
+        try {
+            got = "answered " + call.run();
+        } catch (RuntimeException e) {
+            if (e.getClass() == due) {
+                return;
+            }
+            got = "threw " + e;
+        }
+        fail(what + " " + got + ", due is " + due.getSimpleName());
+    }
+
+    /** The call throws, and the tour is as it was: no state more on the undo stack, no value changed. */
+    static void refuses(String what, Class<? extends RuntimeException> due, CrateTour tour, Call call) {
+        long before = tour.digest();
+        raises(what, due, call);
+        same(what + ": digest behind it", tour.digest(), before);
+    }
+
+    static void isTrue(String what, boolean holds) {
+        checked++;
+        if (!holds) {
+            fail(what);
+        }
+    }
+
+    static void fail(String text) {
+        wrong++;
+        if (wrong <= 50) {
+            System.out.println("wrong: " + text);
+        }
+    }
+
+    static int wrong() {
+        return wrong;
+    }
+
+    static void done(String name) {
+        System.out.println(name + ": " + checked + " checks, " + wrong + " wrong");
+        if (wrong > 0) {
+            System.exit(1);
+        }
+    }
+}
