@@ -1,3 +1,6 @@
+import java.util.Arrays;
+import java.util.List;
+
 /** Counts and prints what a test finds wrong; a test ends with done(). */
 final class Expect {
     /** A call whose answer or exception is looked at. */
@@ -22,6 +25,13 @@ final class Expect {
         }
     }
 
+    static void row(String what, int[] got, int... due) {
+        checked++;
+        if (!Arrays.equals(got, due)) {
+            fail(what + " answered " + Arrays.toString(got) + ", due is " + Arrays.toString(due));
+        }
+    }
+
     static void raises(String what, Class<? extends RuntimeException> due, Call call) {
         checked++;
         String got;
@@ -41,6 +51,29 @@ final class Expect {
         long before = tour.digest();
         raises(what, due, call);
         same(what + ": digest behind it", tour.digest(), before);
+    }
+
+    /** The call answers what is due and changes nothing, the undo stack neither. */
+    static void tells(String what, CrateTour tour, Call call, long due) {
+        long before = tour.digest();
+        same(what, call.run(), due);
+        same(what + ": digest behind it", tour.digest(), before);
+    }
+
+    /**
+     * The call, made while the command text is empty, saves one state, and undo() brings that back. It is
+     * made again then, so that it has been made in the end.
+     */
+    static void undoable(String what, CrateTour tour, Call call) {
+        int saved = Scenes.saved(tour, 0);
+        isTrue(what + ": the digest in front of it is as due", saved >= 0);
+        List<Integer> before = Scenes.view(tour);
+        call.run();
+        int more = Math.min(4, saved + 1);
+        same(what + ": states saved behind it", Scenes.saved(tour, 0), more);
+        same(what + ": undo()", tour.undo(), more - 1);
+        isTrue(what + ": undo() brings back what was", before.equals(Scenes.view(tour)));
+        call.run();
     }
 
     static void isTrue(String what, boolean holds) {
