@@ -15,6 +15,7 @@ public final class CommandsTest {
         faultsOfEveryWord();
         faultsAtEveryByte();
         runsEveryCommand();
+        runGivesEachNumberItsPlace();
         runStopsAtAnException();
         runSavesOneState();
         runWithAFaultDoesNothing();
@@ -174,6 +175,9 @@ public final class CommandsTest {
             fault(word.substring(0, length - 1), 0);
             fault(word.substring(1), 0);
             fault(word + "a", 0);
+            fault(word + "z 1;", 0);
+            fault("z" + word + " 1;", 0);
+            fault("z" + word.substring(1) + " 1;", 0);
             fault(word + word, 0);
             fault(word, length);
             String text = word;
@@ -228,6 +232,59 @@ public final class CommandsTest {
         Expect.same("venue of crate 1", t.crate(1, 3), 1);
         Expect.same("time", t.whole(0), 33);
         Expect.same("arrived so far", t.whole(7), 2);
+    }
+
+    /** Numbers that are all different, and a command that is made ends with its state as by the call. */
+    private static void runGivesEachNumberItsPlace() {
+        String[] texts = {"close 3;", "close 3;nest 3 4;", "close 3;nest 3 4;out 3;", "pack 2 3;",
+            "pack 2 3;unpack 2;", "pack 1 4;close 4;send 4 1;", "pack 1 4;close 4;escort 4 1 2;",
+            "pack 1 4;close 4;escort 4 1 2;wait 30;open 4;", "close 4;open 4;wait 12;"};
+        for (String text : texts) {
+            CrateTour byText = sixOfEach();
+            CrateTour byCalls = sixOfEach();
+            int count = text.split(";").length;
+            Expect.same("run of " + text, Scenes.run(byText, text), count);
+            for (String command : text.split(";")) {
+                call(byCalls, command.split(" "));
+            }
+            Expect.isTrue("the run of " + text + " does what the calls do",
+                    Scenes.view(byText).equals(Scenes.view(byCalls)));
+        }
+    }
+
+    /** Crates and works at venue 2, and couriers of whom the first ones are elsewhere. */
+    private static CrateTour sixOfEach() {
+        CrateTour t = new CrateTour();
+        for (int i = 0; i < 4; i++) {
+            t.addVenue(20, 50, 0, 10_000_000);
+        }
+        t.setWay(2, 1, 30);
+        for (int i = 0; i < 6; i++) {
+            t.addCrate(2, 1);
+            t.addWork(2, i, 10 + i, 5, false);
+        }
+        for (int venue : new int[] {0, 1, 2, 2}) {
+            t.addCourier(venue);
+        }
+        return t;
+    }
+
+    private static void call(CrateTour t, String[] parts) {
+        int[] n = new int[3];
+        for (int i = 1; i < parts.length; i++) {
+            n[i - 1] = Integer.parseInt(parts[i]);
+        }
+        switch (parts[0]) {
+            case "open" -> t.open(n[0]);
+            case "close" -> t.close(n[0]);
+            case "nest" -> t.nest(n[0], n[1]);
+            case "out" -> t.takeOut(n[0]);
+            case "pack" -> t.pack(n[0], n[1]);
+            case "unpack" -> t.unpack(n[0]);
+            case "send" -> t.send(n[0], n[1], NONE);
+            case "escort" -> t.send(n[0], n[1], n[2]);
+            default -> t.advance(n[0]);
+        }
     }
 
     private static void runStopsAtAnException() {

@@ -8,6 +8,7 @@ public final class DeedsTest {
         openWaits();
         openLetsInnerCratesWait();
         openRefusals();
+        openAndCloseTwelve();
         closeTakesTheClimate();
         closeRefusals();
         nest();
@@ -111,6 +112,42 @@ public final class DeedsTest {
         Expect.same("open(0) 10 hours later", t.open(0), 1);
     }
 
+    /** Crates within crates as deep as can be, the inner ones with the lower numbers. */
+    private static void openAndCloseTwelve() {
+        CrateTour t = Scenes.twelveNestedCrates();
+        t.setClimate(0, 25, 50);
+        for (int crate = 11; crate >= 0; crate--) {
+            int one = crate;
+            Expect.refuses("open(" + crate + ") too soon", Expect.STATE, t, () -> t.open(one));
+            t.advance(2);
+            Expect.same("open(" + crate + ")", t.open(crate), 1);
+            if (crate > 0) {
+                Expect.same("crate " + (crate - 1) + " waits since", t.crate(crate - 1, 8), t.whole(0));
+            }
+        }
+        Expect.same("open crates", t.whole(9), 12);
+        Expect.same("unpack(0), out of twelve crates", t.unpack(0), 0);
+        Expect.same("pack(0, 0) again", t.pack(0, 0), 1);
+        for (int crate = 11; crate > 0; crate--) {
+            int one = crate;
+            Expect.refuses("close(" + crate + ") around an open one", Expect.STATE, t, () -> t.close(one));
+        }
+        for (int crate = 0; crate < 12; crate++) {
+            Expect.same("close(" + crate + "): works in it or below it", t.close(crate), crate + 1);
+        }
+        Expect.same("send(11, 1, NONE)", t.send(11, 1, NONE), 54);
+        Expect.same("advance(30)", t.advance(30), 1);
+        Expect.same("venue of crate 0", t.crate(0, 3), 1);
+        Expect.same("legs left of work 0", t.work(0, 2), 19);
+        Expect.same("send(11, 0, NONE)", t.send(11, 0, NONE), 84);
+        Expect.same("advance(30) again", t.advance(30), 1);
+        Expect.same("venue of crate 0", t.crate(0, 3), 0);
+        Expect.same("arrived so far", t.whole(7), 2);
+        t.open(11);
+        Expect.same("takeOut(10)", t.takeOut(10), 11);
+        Expect.same("nest(10, 11): crates directly in it", t.nest(10, 11), 1);
+    }
+
     private static void closeTakesTheClimate() {
         CrateTour t = Scenes.nestedCrates();
         t.open(0);
@@ -166,6 +203,15 @@ public final class DeedsTest {
         t.close(4);
         Expect.same("nest(4, 0): crates directly in it", t.nest(4, 0), 3);
         Expect.same("crates below crate 0", t.crate(0, 11), 4);
+
+        CrateTour other = Scenes.threeVenues();
+        for (int i = 0; i < 4; i++) {
+            other.addCrate(2, 1);
+        }
+        other.close(0);
+        other.close(1);
+        Expect.same("nest(0, 3): crates directly in it", other.nest(0, 3), 1);
+        Expect.same("nest(1, 2): crates directly in it", other.nest(1, 2), 1);
     }
 
     private static void nestRefusals() {

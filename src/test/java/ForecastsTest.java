@@ -9,6 +9,7 @@ public final class ForecastsTest {
         readyInOpenCrates();
         readyOnTheWay();
         readyAsItIsDone();
+        readyInTwelveCrates();
         allReadyAt();
         bestVenueByClimate();
         bestVenueWithoutWorks();
@@ -124,6 +125,18 @@ public final class ForecastsTest {
             t.advance(1);
         }
         Expect.same("works that are out", out, 3);
+    }
+
+    private static void readyInTwelveCrates() {
+        CrateTour t = Scenes.twelveNestedCrates();
+        // Each crate needs 2 hours behind the one around it.
+        t.setClimate(0, 25, 50);
+        ready(t, 24, 22, 20, 18, 16, 14, 12, 10, 8, 6, 4, 2);
+        all(t, 24, 24, 24, 24, 24, 24, 24, 24, 24, 24, 24, 24);
+        t.send(11, 1, NONE);
+        // At venue 1 each needs 5.
+        ready(t, 90, 85, 80, 75, 70, 65, 60, 55, 50, 45, 40, 35);
+        all(t, 90, 90, 90, 90, 90, 90, 90, 90, 90, 90, 90, 90);
     }
 
     private static boolean opens(CrateTour t, int crate) {
@@ -244,6 +257,9 @@ public final class ForecastsTest {
         best(t, 0, 0, 2);
         t.setWay(1, 3, 3);
         best(t, 0, 0, 3);
+        // Back at venue 0 it need not wait.
+        t.setWay(0, 1, 2);
+        best(t, 0, 0, 0);
     }
 
     /** The answer is that of sending the crate to each venue in turn and looking. */

@@ -51,6 +51,24 @@ final class Scenes {
         return tour;
     }
 
+    /**
+     * Three venues; all twelve crates at venue 0, each closed at time 0 in the one with the next number,
+     * so that crate 11 is the outermost one. In each is the work with its number, of as much plus 1.
+     */
+    static CrateTour twelveNestedCrates() {
+        CrateTour tour = threeVenues();
+        for (int i = 0; i < 12; i++) {
+            tour.addCrate(0, 1);
+            tour.addWork(0, 0, i + 1, 20, false);
+            tour.pack(i, i);
+            if (i > 0) {
+                tour.nest(i - 1, i);
+            }
+            tour.close(i);
+        }
+        return tour;
+    }
+
     static void type(CrateTour tour, String text) {
         for (int i = 0; i < text.length(); i++) {
             tour.type(text.charAt(i));

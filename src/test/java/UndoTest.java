@@ -94,6 +94,19 @@ public final class UndoTest {
         t.advance(24);
         Expect.same("premium at the first rate: 200000 * 100 / 10000", t.work(0, 7), 2000);
 
+        // A crate has the climate of its earlier closing behind undo().
+        CrateTour twice = Scenes.closedCrate();
+        twice.open(0);
+        twice.setClimate(0, 30, 70);
+        twice.close(0);
+        Expect.same("temperature in the crate", twice.crate(0, 6), 30);
+        twice.undo();
+        twice.undo();
+        Expect.same("temperature in the open crate", twice.crate(0, 6), 20);
+        twice.undo();
+        Expect.row("the crate closed as before", Scenes.crate(twice, 0),
+                2, 0, -1, 0, -1, -1, 20, 50, 0, 0, 1, 0, 200_000, 1);
+
         // A crate on its way remembers its courier through undo().
         CrateTour other = Scenes.closedCrate();
         other.addCourier(0);

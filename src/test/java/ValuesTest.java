@@ -14,6 +14,7 @@ public final class ValuesTest {
         refusalNumbers();
         crate();
         work();
+        twelveCrates();
         noted();
         venue();
         courier();
@@ -355,6 +356,22 @@ public final class ValuesTest {
         for (int no : new int[] {-1, 8, LOW, HIGH}) {
             Expect.refuses("work(0, " + no + ")", Expect.ARGUMENT, t, () -> t.work(0, no));
         }
+    }
+
+    /** Crates within crates as deep as can be. */
+    private static void twelveCrates() {
+        CrateTour t = Scenes.twelveNestedCrates();
+        t.advance(1);
+        t.send(11, 1, NONE);
+        for (int i = 0; i < 12; i++) {
+            int reaches = (i + 1) * (i + 2) / 2;
+            int holder = i == 11 ? NONE : i + 1;
+            Expect.row("crate " + i + ", sent", Scenes.crate(t, i), 1, 0, holder, -1, 1, 31, 20, 50, 0, -1,
+                    i + 1, i, reaches, 0);
+            Expect.row("work " + i + ", sent", Scenes.work(t, i), 0, i + 1, 20, 0, i, -1, 12 - i, 0);
+        }
+        Expect.same("works on their way", t.whole(8), 12);
+        Expect.same("values on their way", t.venue(1, 5), 78);
     }
 
     private static void noted() {
