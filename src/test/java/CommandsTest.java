@@ -16,6 +16,7 @@ public final class CommandsTest {
         faultsAtEveryByte();
         runsEveryCommand();
         runGivesEachNumberItsPlace();
+        runRefusesByTheRightNumber();
         runStopsAtAnException();
         runSavesOneState();
         runWithAFaultDoesNothing();
@@ -165,6 +166,11 @@ public final class CommandsTest {
         run("x".repeat(150), -10);
         run(" ".repeat(149) + "x", -159);
         run("wait" + " ".repeat(146), -160);
+        run(" ".repeat(146) + "wait", -160);
+        run(" ".repeat(145) + "wait ", -160);
+        run(" ".repeat(144) + "wait 1", -160);
+        run(" ".repeat(143) + "wait 1 ", -160);
+        run(" ".repeat(143) + "wait 1;", 1);
         run("wait 1" + " ".repeat(144), -160);
     }
 
@@ -234,7 +240,7 @@ public final class CommandsTest {
         Expect.same("arrived so far", t.whole(7), 2);
     }
 
-    /** Numbers that are all different, and a command that is made ends with its state as by the call. */
+    /** Each command does what its call does, with numbers that differ from one another. */
     private static void runGivesEachNumberItsPlace() {
         String[] texts = {"close 3;", "close 3;nest 3 4;", "close 3;nest 3 4;out 3;", "pack 2 3;",
             "pack 2 3;unpack 2;", "pack 1 4;close 4;send 4 1;", "pack 1 4;close 4;escort 4 1 2;",
@@ -250,6 +256,15 @@ public final class CommandsTest {
             Expect.isTrue("the run of " + text + " does what the calls do",
                     Scenes.view(byText).equals(Scenes.view(byCalls)));
         }
+    }
+
+    private static void runRefusesByTheRightNumber() {
+        CrateTour t = sixOfEach();
+        Expect.same("nest into a closed crate", Scenes.run(t, "close 3;close 4;nest 3 4;wait 1;"), 2);
+        Expect.same("nest of an open crate", Scenes.run(t, "nest 2 5;wait 1;"), 0);
+        Expect.same("pack into a closed crate", Scenes.run(t, "pack 5 4;wait 1;"), 0);
+        Expect.same("escort by one who is elsewhere", Scenes.run(t, "escort 4 1 1;wait 1;"), 0);
+        Expect.same("send where there is no way", Scenes.run(t, "send 4 3;wait 1;"), 0);
     }
 
     /** Crates and works at venue 2, and couriers of whom the first ones are elsewhere. */
