@@ -1,4 +1,8 @@
+import java.lang.reflect.InvocationTargetException;
+import java.lang.reflect.Method;
+import java.lang.reflect.Modifier;
 import java.util.Arrays;
+import java.util.Comparator;
 import java.util.List;
 
 /** Counts and prints what a test finds wrong; a test ends with done(). */
@@ -14,8 +18,42 @@ final class Expect {
 
     private static int checked = 0;
     private static int wrong = 0;
+    /** The test that is running, when all() runs it; it stands in front of what is wrong. */
+    private static String running = "";
 
     private Expect() {
+    }
+
+    /** Runs the tests of a class: all that it holds without parameters and without an answer, by name. */
+    static void all(Class<?> tests) {
+        Method[] methods = tests.getDeclaredMethods();
+        Arrays.sort(methods, Comparator.comparing(Method::getName));
+        int count = 0;
+        for (Method method : methods) {
+            boolean isTest = method.getParameterCount() == 0 && method.getReturnType() == void.class
+                    && Modifier.isStatic(method.getModifiers()) && !method.isSynthetic();
+            if (isTest) {
+                runTest(method);
+                count++;
+            }
+        }
+        isTrue(tests.getName() + " holds tests", count > 0);
+        System.out.println(tests.getName() + ": " + count + " tests");
+    }
+
+    private static void runTest(Method method) {
+        running = method.getName() + ": ";
+        int before = checked;
+        try {
+            method.setAccessible(true);
+            method.invoke(null);
+        } catch (InvocationTargetException e) {
+            fail("threw " + e.getCause());
+        } catch (IllegalAccessException e) {
+            fail("cannot be run");
+        }
+        isTrue("looks at nothing", checked > before);
+        running = "";
     }
 
     static void same(String what, long got, long due) {
@@ -86,7 +124,7 @@ final class Expect {
     static void fail(String text) {
         wrong++;
         if (wrong <= 50) {
-            System.out.println("wrong: " + text);
+            System.out.println("wrong: " + running + text);
         }
     }
 

@@ -69,6 +69,76 @@ final class Scenes {
         return tour;
     }
 
+    /**
+     * A tour with much of everything, at time 50, with "wait 3; open 0;" as its text and two saved states.
+     * Venue 3 has no ways. Crate 0 is closed at venue 0 and holds 1, which is closed; crate 2 is open there
+     * and holds 3, which is closed, and 4, which is open; crate 5 holds 6 and is on its way to venue 1 since
+     * 45 until 75, with courier 2; crate 7 is open at venue 1; crate 8 is closed there and may be opened at
+     * 61; crate 9 is open at venue 0. Works 0 to 6, of 1000 and as much as their number, are in the crates
+     * with their numbers; work 7 is at venue 0, work 8 at venue 1, both in no crate. Courier 0 is at venue 0,
+     * courier 1 at venue 1.
+     */
+    static CrateTour busy() {
+        CrateTour tour = threeVenues();
+        tour.addVenue(20, 50, 5, 3000);
+        setWishes(tour);
+        for (int venue : new int[] {0, 1, 0}) {
+            tour.addCourier(venue);
+        }
+        for (int i = 0; i < 10; i++) {
+            tour.addCrate(i == 7 || i == 8 ? 1 : 0, 2);
+        }
+        for (int i = 0; i < 9; i++) {
+            tour.addWork(i == 8 ? 1 : 0, i % 6, 1000 + i, 9, i == 5);
+        }
+        for (int i = 0; i < 7; i++) {
+            tour.pack(i, i);
+        }
+        run(tour, "close 1;nest 1 0;close 0;close 3;nest 3 2;close 4;nest 4 2;open 4;close 6;nest 6 5;close 5;");
+        tour.advance(45);
+        tour.close(8);
+        tour.setClimate(1, 30, 40);
+        tour.send(5, 1, 2);
+        tour.clearCommands();
+        type(tour, "wait 3; open 0;");
+        tour.advance(5);
+        // Of the four states that are kept then, these two are saved last and taken off again.
+        tour.advance(1);
+        tour.advance(1);
+        tour.undo();
+        tour.undo();
+        return tour;
+    }
+
+    /** Lenders and a rate for ways that are not as at first. */
+    private static void setWishes(CrateTour tour) {
+        tour.setLender(1, 0, -5);
+        tour.setLender(2, 3, 8);
+        tour.setLender(3, 1, 35);
+        tour.setLender(4, 2, 80);
+        tour.setWayRate(300);
+    }
+
+    /** All that there can be: 8 venues, 12 crates, 16 works, 4 couriers, a text of 150 bytes, 4 saved states. */
+    static CrateTour full() {
+        CrateTour tour = new CrateTour();
+        for (int i = 0; i < 8; i++) {
+            tour.addVenue(20 + i, 50, 10 * i, 10_000_000);
+        }
+        for (int i = 0; i < 12; i++) {
+            tour.addCrate(i % 8, 1 + i % 4);
+        }
+        for (int i = 0; i < 16; i++) {
+            tour.addWork(i % 8, i % 6, 1000 * (i + 1), 20, i % 3 == 0);
+        }
+        for (int i = 0; i < 4; i++) {
+            tour.addCourier(i);
+            tour.setWay(i, 7 - i, 10 + i);
+        }
+        type(tour, "wait 1;".repeat(21) + "   ");
+        return tour;
+    }
+
     static void type(CrateTour tour, String text) {
         for (int i = 0; i < text.length(); i++) {
             tour.type(text.charAt(i));
