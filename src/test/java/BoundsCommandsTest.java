@@ -218,6 +218,8 @@ public final class BoundsCommandsTest {
             fault(whole + " 500;", whole.length() + 1);
             fault(words[i] + "x 500;", 0);
             fault(words[i].substring(1) + " 500;", 0);
+            fault("x" + words[i].substring(1) + " 500;", 0);
+            fault(words[i].substring(0, words[i].length() - 1) + "x 500;", 0);
         }
         for (String word : new String[] {"takeout", "advance", "undo", "run", "o", "s", "nestle", "a", "z"}) {
             fault(word + " 1;", 0);
@@ -276,7 +278,7 @@ public final class BoundsCommandsTest {
 
     // ---- runs
 
-    /** "if it has a fault, nothing is done", "-10 minus the fault": from the first index to the length of a full text. */
+    /** "if it has a fault, nothing is done", "-10 minus the fault": from index 0 to the length of a full text. */
     private static void runWithAFault() {
         Twin.tells("run", withText("#"), CrateTour::runCommands, -10);
         Twin.tells("run", withText("wait 1;close 9;#"), CrateTour::runCommands, -25);

@@ -124,6 +124,27 @@ public final class BoundsDeedsTest {
         Expect.same("crate 2, in that", deep.crate(2, 8), 0);
     }
 
+    /** "numbered from 0": the first and the last crate in another one are looked at like all others. */
+    private static void firstAndLastCrateInAnotherOne() {
+        for (int inner : new int[] {0, 11}) {
+            CrateTour t = Scenes.threeVenues();
+            for (int i = 0; i < 12; i++) {
+                t.addCrate(0, 1);
+            }
+            t.close(inner);
+            Expect.same("nest(" + inner + ", 5)", t.nest(inner, 5), 1);
+            Expect.same("crates below crate 5", t.crate(5, 11), 1);
+            t.close(5);
+            t.advance(7);
+            t.open(5);
+            Expect.same("crate " + inner + " waits since", t.crate(inner, 8), 7);
+            t.open(inner);
+            Expect.raises("close(5) around an open one", Expect.STATE, () -> t.close(5));
+            t.close(inner);
+            Expect.same("close(5) around a closed one", t.close(5), 0);
+        }
+    }
+
     /** "Returns the number of works that are directly in it": none, all, and not those below. */
     private static void openReturnsWorksDirectlyInIt() {
         Expect.same("open(0) with none", packed(0).open(0), 0);
@@ -308,6 +329,18 @@ public final class BoundsDeedsTest {
         Expect.same("nest(0, 3), with two below it", deep.nest(0, 3), 1);
     }
 
+    /** "Puts a crate into another one": it waits as it did, and stays at the venue. */
+    private static void nestLeavesTheCrateAsItIs() {
+        CrateTour t = Scenes.busy();
+        t.nest(0, 4);
+        Expect.row("crate 0", Scenes.crate(t, 0), 2, 0, 4, 0, NONE, NONE, 20, 50, 0, 0, 2, 1, 2001, 1);
+        Expect.row("crate 1 in it", Scenes.crate(t, 1), 2, 0, 0, 0, NONE, NONE, 20, 50, 0, 0, 1, 0, 1001, 0);
+        CrateTour later = Scenes.busy();
+        later.advance(1);
+        later.nest(8, 7);
+        Expect.same("crate 8 waits since", later.crate(8, 8), 45);
+    }
+
     private static void nestIsUndoable() {
         Twin.isUndoable("nest(0, 9)", Scenes::busy, t -> t.nest(0, 9), 1);
         Twin.isUndoable("nest(0, 2)", Scenes::busy, t -> t.nest(0, 2), 3);
@@ -348,6 +381,7 @@ public final class BoundsDeedsTest {
         t.open(0);
         t.advance(4);
         t.open(1);
+        t.advance(1);
         Expect.same("takeOut(2)", t.takeOut(2), 1);
         Expect.row("crate 2", Scenes.crate(t, 2), 1, 0, NONE, 0, NONE, NONE, 20, 50, 8, 0, 1, 0, 3, 1);
     }
@@ -401,7 +435,7 @@ public final class BoundsDeedsTest {
         Expect.same("pack(7, 9) at the same one", Scenes.busy().pack(7, 9), 1);
     }
 
-    /** "Returns the number of works that are directly in the crate then": from the first to all, without those below. */
+    /** "Returns the number of works that are directly in the crate then": 1 to 16, without those below. */
     private static void packReturnsWorksDirectlyInIt() {
         CrateTour t = packed(0);
         t.open(0);

@@ -164,7 +164,7 @@ public final class BoundsForecastsTest {
         Expect.same("readyAt(11)", last, 96);
         int opened = 0;
         for (int hour = 5; hour <= last; hour++) {
-            while (opened < 12 && opens(t, opened)) {
+            while (opened < 12 && Scenes.opens(t, opened)) {
                 Expect.same("hour in which crate " + opened + " is opened", t.whole(0), 8 * (opened + 1));
                 opened++;
             }
@@ -172,15 +172,6 @@ public final class BoundsForecastsTest {
             t.advance(1);
         }
         Expect.same("crates opened", opened, 12);
-    }
-
-    private static boolean opens(CrateTour t, int crate) {
-        try {
-            t.open(crate);
-            return true;
-        } catch (IllegalStateException e) {
-            return false;
-        }
     }
 
     // ---- allReadyAt

@@ -315,8 +315,13 @@ public final class BoundsThingsTest {
     }
 
     private static void setLenderIsUndoable() {
-        Twin.isUndoable("setLender(1, 0, 0)", Scenes::busy, t -> t.setLender(1, 0, 0), -5);
-        Twin.isUndoable("setLender(5, 3, 255)", Scenes::busy, t -> t.setLender(5, 3, 255), 0);
+        for (int lender = 0; lender < 6; lender++) {
+            int one = lender;
+            Twin.isUndoable("setLender(" + lender + ", 0, 7)", Scenes::busy, t -> t.setLender(one, 0, 7),
+                    lender == 1 ? -5 : -10);
+            Twin.isUndoable("setLender(" + lender + ", 3, 255)", Scenes::busy, t -> t.setLender(one, 3, 255),
+                    lender == 2 ? 8 : 0);
+        }
         Twin.isUndoable("setLender to what it is", Scenes::busy, t -> t.setLender(2, 3, 8), 8);
     }
 

@@ -63,6 +63,16 @@ public final class BoundsTimeTest {
         }
     }
 
+    /** "An object is used for at most 512 calls after it has been made": the last of these answers as due. */
+    private static void lastCallThatIsPromised() {
+        CrateTour t = new CrateTour();
+        for (int call = 1; call <= 510; call++) {
+            t.advance(240);
+        }
+        Expect.same("undo(), call 511", t.undo(), 3);
+        Expect.same("time, call 512", t.whole(0), 509 * 240);
+    }
+
     /** "at the time of sending plus the hours of the way it arrives": not an hour earlier, and in a long wait too. */
     private static void crateArrivesAtItsHour() {
         Expect.row("crate 5 at 74", Scenes.crate(later(24), 5),
@@ -111,6 +121,19 @@ public final class BoundsTimeTest {
         Expect.same("courier(2) at 290", later(240).courier(2), 1);
         Expect.same("courier(0) at 290", later(240).courier(0), 0);
         Expect.same("courier(1) at 290", later(240).courier(1), 1);
+    }
+
+    /** "A courier who goes along arrives with it": and not with another crate that arrives before it. */
+    private static void courierArrivesWithNoOtherCrate() {
+        CrateTour t = Scenes.busy();
+        t.setWay(0, 2, 26);
+        t.send(0, 2, 0);
+        t.advance(25);
+        Expect.same("courier(2) at 75", t.courier(2), 1);
+        Expect.same("courier(0) at 75", t.courier(0), NONE);
+        t.advance(1);
+        Expect.same("courier(2) at 76", t.courier(2), 1);
+        Expect.same("courier(0) at 76", t.courier(0), 2);
     }
 
     /** "with a courier or without one": a crate that is sent back alone brings no courier. */

@@ -78,7 +78,8 @@ public final class BoundsUndoTest {
 
     /** "saves the whole state", "The saved state is the one from before the call": four back, each one whole. */
     private static void undoRestoresTheWholeState() {
-        List<Twin.Ask> calls = List.of(t -> t.setClimate(1, 5, 25), t -> t.send(0, 1, 0), t -> t.advance(24),
+        List<Twin.Ask> calls = List.of(t -> t.open(0), t -> t.setClimate(0, 25, 60), t -> t.close(0),
+                t -> t.setClimate(0, 20, 50), t -> t.send(0, 1, 0), t -> t.advance(24),
                 t -> t.takeOut(3), t -> t.nest(3, 9), t -> t.open(3), t -> t.unpack(3), t -> t.pack(7, 9),
                 t -> t.setLender(5, 3, 77), t -> t.setWay(0, 1, 0), t -> t.setWayRate(4321), t -> t.advance(240),
                 t -> t.addWork(0, 0, 1, 1, true), t -> t.addCrate(2, 1), t -> t.addCourier(2),
@@ -106,28 +107,12 @@ public final class BoundsUndoTest {
     /** All values now, and all that comes of going on; how many states are saved is left out. */
     private static List<Long> future(Twin.Scene scene) {
         List<Long> row = new ArrayList<>(values(scene));
-        row.addAll(settings(scene.make()));
+        row.addAll(Twin.settings(scene.make()));
         row.addAll(values(() -> {
             CrateTour t = scene.make();
             t.advance(240);
             return t;
         }));
-        return row;
-    }
-
-    private static List<Long> settings(CrateTour t) {
-        List<Long> row = new ArrayList<>();
-        for (int lender = 0; lender < 6; lender++) {
-            for (int what = 0; what < 4; what++) {
-                row.add((long) t.setLender(lender, what, 30));
-            }
-        }
-        for (int a = 0; a < t.whole(1); a++) {
-            for (int b = 0; b < a; b++) {
-                row.add((long) t.setWay(a, b, 1));
-            }
-        }
-        row.add((long) t.setWayRate(1));
         return row;
     }
 

@@ -148,7 +148,7 @@ public final class BoundsValuesTest {
         Expect.same("crate(9, 10) of an empty one", Scenes.busy().crate(9, 10), 0);
     }
 
-    /** Crate 0 is the outermost of twelve; works 0 to 10 of a million are in the crates with their numbers, the others in crate 11. */
+    /** Crate 0 is the outermost of twelve; works 0 to 11 are in the crates with their numbers, the others in crate 11. */
     private static CrateTour sixteenInTwelve() {
         CrateTour t = Scenes.threeVenues();
         for (int i = 0; i < 12; i++) {
@@ -185,7 +185,7 @@ public final class BoundsValuesTest {
         Expect.same("crate(9, 12) of an empty one", Scenes.busy().crate(9, 12), 0);
     }
 
-    /** "13 1 if it is within reach or 0 if not": by "in no crate and at a venue, or in a crate that is open and within reach". */
+    /** "13 1 if it is within reach or 0 if not": "in no crate and at a venue, or in a crate that is open and .." */
     private static void crateWithinReach() {
         int[] reach = {1, 0, 1, 1, 1, 0, 0, 1, 1, 1};
         for (int crate = 0; crate < 10; crate++) {

@@ -4,7 +4,9 @@ import java.util.Random;
 
 /**
  * Long runs of calls, drawn with fixed seeds, on the program and on PlainTour: every answer, every
- * exception and every digest must be the same. Arguments: first seed, number of runs.
+ * exception and every digest must be the same. Each second run looks at the digest behind every call, the
+ * others at the end alone; with these, no object is used for more than 512 calls, for what later ones answer
+ * is free. Arguments: first seed, number of runs.
  */
 public final class CrateTourModelTest {
     private static final int CALLS = 512;
@@ -97,16 +99,18 @@ public final class CrateTourModelTest {
     private final PlainTour plain = new PlainTour();
     private final List<String> trail = new ArrayList<>();
     private final int[] answered;
+    private final boolean digestsEach;
     private int calls = 0;
 
     private CrateTourModelTest(long seed, int[] answered) {
         random = new Random(seed);
         this.answered = answered;
+        digestsEach = seed % 2 == 0;
     }
 
     public static void main(String[] args) {
         long first = args.length > 0 ? Long.parseLong(args[0]) : 1;
-        int runs = args.length > 1 ? Integer.parseInt(args[1]) : 150;
+        int runs = args.length > 1 ? Integer.parseInt(args[1]) : 300;
         int[] answered = new int[11];
         for (long seed = first; seed < first + runs && Expect.wrong() == 0; seed++) {
             new CrateTourModelTest(seed, answered).run(seed);
@@ -120,8 +124,11 @@ public final class CrateTourModelTest {
 
     private void run(long seed) {
         setUp();
-        while (calls < CALLS && Expect.wrong() == 0) {
+        while (!isUsedUp() && Expect.wrong() == 0) {
             doSomething();
+        }
+        if (Expect.wrong() == 0) {
+            Expect.same("digest at the end", tour.digest(), plain.digest());
         }
         if (Expect.wrong() > 0) {
             System.out.println("seed " + seed + ", the calls up to there:");
@@ -131,14 +138,24 @@ public final class CrateTourModelTest {
         }
     }
 
+    /** Whether a call, its digest and the digest at the end would be one too many. */
+    private boolean isUsedUp() {
+        return calls + 3 > CALLS;
+    }
+
     private void call(String name, int... n) {
-        calls++;
+        if (isUsedUp()) {
+            return;
+        }
+        calls += digestsEach ? 2 : 1;
         Step step = new Step(name, n);
         String got = answer(step, true);
         String due = answer(step, false);
         trail.add(step.text() + " -> " + got);
         Expect.isTrue(step.text() + " answered " + got + ", due is " + due, got.equals(due));
-        Expect.same("digest behind " + step.text(), tour.digest(), plain.digest());
+        if (digestsEach) {
+            Expect.same("digest behind " + step.text(), tour.digest(), plain.digest());
+        }
         if (name.equals("refusal") && got.matches("\\d+")) {
             answered[Integer.parseInt(got)]++;
         }

@@ -116,7 +116,7 @@ public final class ForecastsTest {
         int[] forecast = {t.readyAt(0), t.readyAt(1), t.readyAt(2)};
         int out = 0;
         for (int hour = 0; hour < 120 && out < 3; hour++) {
-            while (out < 3 && opens(t, out)) {
+            while (out < 3 && Scenes.opens(t, out)) {
                 t.unpack(out);
                 Expect.same("time at which work " + out + " is out", t.whole(0), forecast[out]);
                 Expect.same("readyAt(" + out + ") of a work in no crate", t.readyAt(out), t.whole(0));
@@ -137,15 +137,6 @@ public final class ForecastsTest {
         // At venue 1 each needs 5.
         ready(t, 90, 85, 80, 75, 70, 65, 60, 55, 50, 45, 40, 35);
         all(t, 90, 90, 90, 90, 90, 90, 90, 90, 90, 90, 90, 90);
-    }
-
-    private static boolean opens(CrateTour t, int crate) {
-        try {
-            t.open(crate);
-            return true;
-        } catch (IllegalStateException e) {
-            return false;
-        }
     }
 
     private static void allReadyAt() {

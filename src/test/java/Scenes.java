@@ -139,6 +139,16 @@ final class Scenes {
         return tour;
     }
 
+    /** Opens a crate if that can be done, and tells whether it was. */
+    static boolean opens(CrateTour tour, int crate) {
+        try {
+            tour.open(crate);
+            return true;
+        } catch (IllegalStateException e) {
+            return false;
+        }
+    }
+
     static void type(CrateTour tour, String text) {
         for (int i = 0; i < text.length(); i++) {
             tour.type(text.charAt(i));

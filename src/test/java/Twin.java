@@ -97,7 +97,7 @@ final class Twin {
     static List<Long> everything(Scene scene) {
         List<Long> row = new ArrayList<>();
         for (int times = 0; times <= KEPT_STATES + 1; times++) {
-            addSettings(row, undone(scene, times, row));
+            row.addAll(settings(undone(scene, times, row)));
             addFuture(row, undone(scene, times, row));
         }
         return row;
@@ -112,7 +112,9 @@ final class Twin {
         return tour;
     }
 
-    private static void addSettings(List<Long> row, CrateTour tour) {
+    /** Lenders, ways and the rate for ways, as the calls that set them tell; they are others then. */
+    static List<Long> settings(CrateTour tour) {
+        List<Long> row = new ArrayList<>();
         for (int lender = 0; lender < 6; lender++) {
             for (int what = 0; what < 4; what++) {
                 row.add((long) tour.setLender(lender, what, 30));
@@ -124,6 +126,7 @@ final class Twin {
             }
         }
         row.add((long) tour.setWayRate(1));
+        return row;
     }
 
     private static void addFuture(List<Long> row, CrateTour tour) {
