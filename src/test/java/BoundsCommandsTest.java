@@ -263,6 +263,14 @@ public final class BoundsCommandsTest {
         fault("ope 12345;", 0);
         fault("wait;; 1", 4);
         fault("wait 1;#;#", 7);
+        fault("open ;#", 5);
+        fault("open ; open ;", 5);
+        fault("nest 1 ;#", 7);
+        fault("nest 1;#", 6);
+        fault("wait;#", 4);
+        fault("wait 1 wait 2;#", 7);
+        fault("wait 12345;#", 9);
+        fault("open 1 2; ope", 7);
     }
 
     /** "(That a number is out of its range is no fault.)": the run stops there, and saves its state. */

@@ -148,7 +148,7 @@ public final class BoundsValuesTest {
         Expect.same("crate(9, 10) of an empty one", Scenes.busy().crate(9, 10), 0);
     }
 
-    /** Crate 0 is the outermost of twelve; works 0 to 11 are in the crates with their numbers, the others in crate 11. */
+    /** Crate 0 is the outermost of twelve; works 0 to 11 are in the crates with their numbers, the others in 11. */
     private static CrateTour sixteenInTwelve() {
         CrateTour t = Scenes.threeVenues();
         for (int i = 0; i < 12; i++) {
