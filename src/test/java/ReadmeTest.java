@@ -20,7 +20,7 @@ public final class ReadmeTest {
     private static final Path README = Path.of("README.md");
     private static final Path OWN_SOURCE = Path.of("src/test/java/ReadmeTest.java");
     private static final Pattern SHOWN = Pattern.compile("int (\\w+) = .*; +// (-?\\d+)(: .*)?");
-    private static final int ROUNDS = 2000;
+    private static final int ROUNDS = 500;
     private static final int LEAST_BYTES_OF_AN_OBJECT = 8;
 
     public static void main(String[] args) {
